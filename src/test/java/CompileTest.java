@@ -160,9 +160,17 @@ public final class CompileTest {
         desk.operation(0, 1, 1, 1, 0);
         desk.clear();
         desk.move(9, 1, 2, 3, 4, 5);
-        Check.fails("and sums: HALT at 64", UnsupportedOperationException.class, () -> desk.compile());
+        Check.fails("and sums: R at 64", UnsupportedOperationException.class, () -> desk.compile());
         Check.same("the code stays", desk.moveAt(9, 1, 0), 2);
         expectMoves(desk, 1);
+        MoveDesk halt = new MoveDesk(2, 4, 3);
+        for (int i = 0; i < 12; i++) {
+            halt.operation(2, 0, 0, 0, 0);
+        }
+        halt.operation(0, 1, 0, 0, 0);
+        halt.operation(0, 1, 1, 1, 0);
+        Check.fails("R at 63, HALT at 64", UnsupportedOperationException.class, () -> halt.compile());
+        expectMoves(halt, 0);
         MoveDesk least = new MoveDesk(2, 4, 3);
         for (int i = 0; i < 12; i++) {
             least.operation(2, 0, 0, 0, 0);

@@ -27,6 +27,7 @@ public final class FaceTest {
                 constructors[0].toString().equals("public MoveDesk(int,int,int)"));
         for (Class<?> inside : face.getDeclaredClasses()) {
             Check.yes("static " + inside, Modifier.isStatic(inside.getModifiers()));
+            checkNamesInside(face, inside);
         }
         Check.end();
     }
@@ -43,6 +44,16 @@ public final class FaceTest {
             }
         }
         Check.yes("public methods " + found, found.equals(METHODS));
+    }
+
+    /** LANGUAGE.md, rule 1: no private method bears the name of a public one. */
+    private static void checkNamesInside(Class<?> face, Class<?> inside) {
+        for (Method method : inside.getDeclaredMethods()) {
+            for (Method open : face.getDeclaredMethods()) {
+                Check.no("the name of " + method,
+                        Modifier.isPublic(open.getModifiers()) && open.getName().equals(method.getName()));
+            }
+        }
     }
 
     private static String signature(Method method) {

@@ -10,6 +10,7 @@ public final class JudgeTest {
         jumpsOfNoConstant();
         waysEndAtHaltAndAtFaults();
         waysComeRound();
+        waysGoBackOftenAndOften();
         theLeastCycleAndFault();
         theObjectStaysAsItIs();
         Check.end();
@@ -135,6 +136,21 @@ public final class JudgeTest {
         expect("7 is passed over", desk, -1, 0);
         Ports.constant(desk, 62, 0, 64 + 7, Ports.JUMP);
         expect("7 by modulo", desk, 7, 4);
+    }
+
+    private static void waysGoBackOftenAndOften() {
+        MoveDesk desk = new MoveDesk(2, 4, 3);
+        Ports.constant(desk, 0, 0, 60, Ports.JUMP);
+        for (int cycle = 60; cycle > 5; cycle -= 5) {
+            Ports.constant(desk, cycle, 1, cycle - 5, Ports.JUMP);
+        }
+        expect("all JUMPS", desk, -1, 0);
+        Ports.port(desk, 5, 0, Ports.RESULT + 1, 0);
+        expect("the last one leads to a FAULT", desk, 5, 2);
+        Ports.constant(desk, 12, 0, 1, Ports.MULTIPLY);
+        expect("a product begun too late", desk, 5, 2);
+        Ports.constant(desk, 16, 0, 1, Ports.MULTIPLY);
+        expect("a product begun in time", desk, -1, 0);
     }
 
     private static void theLeastCycleAndFault() {
