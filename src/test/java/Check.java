@@ -1,16 +1,22 @@
-/** Counts and prints the answers that are not as due; a test ends with end(). */
+/** Counts and prints the answers that are not as due, with the document's words that they belong to. */
 final class Check {
+    private static String words = "";
     private static int wrong = 0;
     private static int asked = 0;
 
     private Check() {
     }
 
+    /** The words of the document that the answers from here on belong to. */
+    static void sentence(String quoted) {
+        words = "\"" + quoted + "\" ";
+    }
+
     static void same(String call, long got, long want) {
         asked++;
         if (got != want) {
             wrong++;
-            System.out.println(call + " answered " + got + ", due is " + want);
+            System.out.println(words + call + " answered " + got + ", due is " + want);
         }
     }
 
@@ -32,7 +38,7 @@ final class Check {
         }
         if (!got.equals(due.getName())) {
             wrong++;
-            System.out.println(call + " threw " + got + ", due is " + due.getName());
+            System.out.println(words + call + " threw " + got + ", due is " + due.getName());
         }
     }
 

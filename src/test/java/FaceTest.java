@@ -26,7 +26,8 @@ public final class FaceTest {
         Check.yes("constructor " + constructors[0],
                 constructors[0].toString().equals("public MoveDesk(int,int,int)"));
         for (Class<?> inside : face.getDeclaredClasses()) {
-            Check.yes("static " + inside, Modifier.isStatic(inside.getModifiers()));
+            Check.no("public or protected " + inside,
+                    Modifier.isPublic(inside.getModifiers()) || Modifier.isProtected(inside.getModifiers()));
             checkNamesInside(face, inside);
         }
         Check.end();
@@ -50,8 +51,8 @@ public final class FaceTest {
     private static void checkNamesInside(Class<?> face, Class<?> inside) {
         for (Method method : inside.getDeclaredMethods()) {
             for (Method open : face.getDeclaredMethods()) {
-                Check.no("the name of " + method,
-                        Modifier.isPublic(open.getModifiers()) && open.getName().equals(method.getName()));
+                Check.no("the name of " + method, Modifier.isPrivate(method.getModifiers())
+                        && Modifier.isPublic(open.getModifiers()) && open.getName().equals(method.getName()));
             }
         }
     }

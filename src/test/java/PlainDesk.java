@@ -37,6 +37,10 @@ final class PlainDesk {
         reset();
     }
 
+    int buses() {
+        return buses;
+    }
+
     void move(int cycle, int bus, int guard, int source, int constant, int destination) {
         checkBus(cycle, bus);
         if (guard < 0 || guard > 8 || source < 0 || source > 11 || destination < 0 || destination > 25) {

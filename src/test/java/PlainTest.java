@@ -3,9 +3,12 @@ public final class PlainTest {
     private static long seed = 20261115;
 
     public static void main(String[] args) {
-        int runs = args.length > 0 ? Integer.parseInt(args[0]) : 400;
+        int runs = args.length > 0 ? Integer.parseInt(args[0]) : 1000;
         for (int run = 0; run < runs; run++) {
             mixedCalls(run);
+        }
+        for (int run = 0; run < runs; run++) {
+            compiledCode(run);
         }
         for (int run = 0; run < runs; run++) {
             compiledAsDone(run);
@@ -40,9 +43,13 @@ public final class PlainTest {
     }
 
     private static final class Pair {
+        /** What the document promises ends with an object's 512th call. */
+        static final int MOST_CALLS = 512;
+
         final MoveDesk desk;
         final PlainDesk plain;
         final String name;
+        int calls = 0;
 
         Pair(String name, int buses, int multiply, int load) {
             this.name = name + " of MoveDesk(" + buses + ", " + multiply + ", " + load + ")";
@@ -70,7 +77,15 @@ public final class PlainTest {
         }
 
         void same(String call, Call got, Call want) {
+            calls++;
             Check.same(name + ": " + call, answer(got), answer(want));
+            if (calls > MOST_CALLS) {
+                throw new IllegalStateException("a test that asks too much of one object");
+            }
+        }
+
+        boolean hasCalls(int count) {
+            return calls + count <= MOST_CALLS;
         }
 
         void move(int cycle, int bus, int guard, int source, int constant, int destination) {
@@ -110,26 +125,56 @@ public final class PlainTest {
         }
 
         void reset() {
-            desk.reset();
-            plain.reset();
+            same("reset()", () -> {
+                desk.reset();
+                return 0;
+            }, () -> {
+                plain.reset();
+                return 0;
+            });
         }
 
+        void clear() {
+            same("clear()", () -> {
+                desk.clear();
+                return 0;
+            }, () -> {
+                plain.clear();
+                return 0;
+            });
+        }
+
+        void state(int what) {
+            same("state(" + what + ")", () -> desk.state(what), () -> plain.state(what));
+        }
+
+        void peek(int k) {
+            same("peek(" + k + ")", () -> desk.peek(k), () -> plain.peek(k));
+        }
+
+        void moveAt(int cycle, int bus, int what) {
+            same("moveAt(" + cycle + ", " + bus + ", " + what + ")", () -> desk.moveAt(cycle, bus, what),
+                    () -> plain.moveAt(cycle, bus, what));
+        }
+
+        /** 88 calls. */
         void sameState() {
-            for (int what = -1; what < 17; what++) {
-                int asked = what;
-                same("state(" + what + ")", () -> desk.state(asked), () -> plain.state(asked));
+            for (int what = 0; what < 16; what++) {
+                state(what);
             }
             for (int k = 0; k < 72; k++) {
-                int asked = k;
-                same("peek(" + k + ")", () -> desk.peek(asked), () -> plain.peek(asked));
+                peek(k);
             }
         }
 
+        /** Up to 192 calls, and three more for each move. */
         void sameCode() {
-            for (int at = 0; at < 64 * 4 * 4; at++) {
-                int asked = at;
-                same("moveAt of " + at, () -> desk.moveAt(asked / 16, asked / 4 % 4, asked % 4),
-                        () -> plain.moveAt(asked / 16, asked / 4 % 4, asked % 4));
+            for (int cycle = 0; cycle < 64; cycle++) {
+                for (int bus = 0; bus < plain.buses(); bus++) {
+                    for (int what = plain.moveAt(cycle, bus, 0) == -1 ? 3 : 0; what < 4; what++) {
+                        moveAt(cycle, bus, what);
+                    }
+                }
             }
         }
     }
@@ -157,11 +202,10 @@ public final class PlainTest {
     private static void mixedCalls(int run) {
         Pair pair = pair("mixed run " + run);
         int cycles = 2 + pick(20);
-        for (int call = 0; call < 400; call++) {
+        while (pair.hasCalls(88 + 2)) {
             mixedCall(pair, cycles);
         }
         pair.sameState();
-        pair.sameCode();
     }
 
     private static void mixedCall(Pair pair, int cycles) {
@@ -201,7 +245,14 @@ public final class PlainTest {
                 pair.run(near(0, 1000));
                 break;
             case 12:
-                pair.sameState();
+            case 13:
+                pair.state(near(0, 15));
+                break;
+            case 14:
+                pair.peek(k);
+                break;
+            case 15:
+                pair.moveAt(cycle, bus, near(0, 3));
                 break;
             default:
                 if (pick(2) == 0) {
@@ -215,13 +266,23 @@ public final class PlainTest {
     private static void rareCall(Pair pair) {
         int which = pick(8);
         if (which == 0) {
-            pair.desk.clear();
-            pair.plain.clear();
+            pair.clear();
         } else if (which == 1) {
             pair.same("forget()", pair.desk::forget, pair.plain::forget);
         } else if (which == 2) {
             pair.same("fault(3)", () -> pair.desk.fault(3), () -> pair.plain.fault(3));
         }
+    }
+
+    private static void compiledCode(int run) {
+        Pair pair = pair("compiled code " + run);
+        int count = pick(21);
+        for (int i = 0; i < count; i++) {
+            operation(pair);
+        }
+        move(pair, 64);
+        pair.same("compile()", pair.desk::compile, pair.plain::compile);
+        pair.sameCode();
     }
 
     private static void compiledAsDone(int run) {
@@ -233,10 +294,8 @@ public final class PlainTest {
         for (int i = 0; i < count; i++) {
             operation(pair);
         }
-        move(pair, 64);
-        pair.same("compile()", pair.desk::compile, pair.plain::compile);
-        pair.sameCode();
-        if (Pair.answer(pair.desk::compile) > 63) {
+        long halt = Pair.answer(pair.desk::compile);
+        if (halt > 63) {
             return;
         }
         int[] due = new int[72];
@@ -244,7 +303,7 @@ public final class PlainTest {
             due[k] = pair.desk.done(k);
         }
         Check.same(pair.name + ": judge() of compiled", pair.desk.judge(), -1);
-        Check.same(pair.name + ": run() of compiled", pair.desk.run(1000), pair.desk.compile() + 1);
+        Check.same(pair.name + ": run() of compiled", pair.desk.run(1000), halt + 1);
         for (int k = 0; k < 72; k++) {
             Check.same(pair.name + ": compiled " + k, pair.desk.peek(k), due[k]);
         }

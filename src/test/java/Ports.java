@@ -14,6 +14,9 @@ final class Ports {
     static final int JUMP = 24;
     static final int HALT = 25;
 
+    /** By units, a trigger that brings a result. */
+    static final int[] BEGIN = {ADD, MULTIPLY, LOAD};
+
     private Ports() {
     }
 
@@ -31,5 +34,11 @@ final class Ports {
 
     static void port(MoveDesk desk, int cycle, int bus, int source, int destination) {
         desk.move(cycle, bus, ALWAYS, source, 0, destination);
+    }
+
+    /** Two numbers meet in a unit, in one cycle: its operand on bus 0, its trigger on bus 1. */
+    static void meet(MoveDesk desk, int cycle, int unit, int operand, int trigger, int value) {
+        constant(desk, cycle, 0, operand, OPERAND + unit);
+        constant(desk, cycle, 1, value, trigger);
     }
 }
