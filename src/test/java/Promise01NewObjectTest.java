@@ -28,7 +28,7 @@ public final class Promise01NewObjectTest {
 
     private static void busesTooFew() {
         nearest();
-        for (int given : new int[] {1, 0, -1, LEAST}) {
+        for (int given : new int[] {1, 0, -1, -3, -4, -100, LEAST}) {
             expectBuses(given, 2);
         }
     }
@@ -76,7 +76,7 @@ public final class Promise01NewObjectTest {
 
     private static void multiplyTooSmall() {
         nearest();
-        for (int given : new int[] {0, -1, -4, LEAST}) {
+        for (int given : new int[] {0, -1, -2, -4, -100, LEAST}) {
             expectLatency(new MoveDesk(2, given, 2), "multiply " + given, 1, 1);
         }
     }
@@ -97,7 +97,7 @@ public final class Promise01NewObjectTest {
 
     private static void loadTooSmall() {
         nearest();
-        for (int given : new int[] {0, -1, -3, LEAST}) {
+        for (int given : new int[] {0, -1, -2, -3, -100, LEAST}) {
             expectLatency(new MoveDesk(2, 2, given), "load " + given, 2, 1);
         }
     }

@@ -6,6 +6,7 @@ public final class Promise08CompileTest {
         constants();
         twentyOperations();
         busesForTandO();
+        busesBesideALoad();
         behindEachEarlierR();
         behindEachEarlierT();
         notMoreThanTwoRegisters();
@@ -21,6 +22,7 @@ public final class Promise08CompileTest {
         triggerAboveTheLastCycle();
         theCodeStays();
         theCodeIsTheirsAlone();
+        asIfNoneHadBeenCompiled();
         onlyTheCodeChanges();
         Check.end();
     }
@@ -149,6 +151,29 @@ public final class Promise08CompileTest {
         expect(four, 1, 1, 11, 3, 14);
         expect(four, 2, 0, 9, 0, 1);
         expect(four, 3, 0, 10, 0, 2);
+    }
+
+    private static void busesBesideALoad() {
+        Check.sentence("(load: T alone, a to the trigger)");
+        for (int buses = 2; buses <= 4; buses++) {
+            MoveDesk desk = new MoveDesk(buses, 1, 1);
+            desk.operation(3, 0, 8, 0, 1);
+            desk.operation(0, 1, 8, 8, 2);
+            desk.compile();
+            expect(desk, 0, 0, 11, 1, 14);
+            if (buses == 2) {
+                CodeView.expectNone(desk, 0, 1);
+                expect(desk, 1, 0, 10, 0, 0);
+                expect(desk, 2, 0, 11, 2, 8);
+                expect(desk, 2, 1, 11, 2, 11);
+                expect(desk, 3, 0, 8, 0, 1);
+            } else {
+                expect(desk, 0, 1, 11, 2, 8);
+                expect(desk, 0, 2, 11, 2, 11);
+                expect(desk, 1, 0, 10, 0, 0);
+                expect(desk, 2, 0, 8, 0, 1);
+            }
+        }
     }
 
     private static void behindEachEarlierR() {
@@ -300,18 +325,20 @@ public final class Promise08CompileTest {
 
     private static void aheadOfNoReading() {
         Check.sentence("and ahead of no cycle in which an earlier operation reads d");
-        int[][] stores = {{0, 5}, {5, 0}};
-        for (int[] store : stores) {
-            MoveDesk desk = new MoveDesk(4, 4, 1);
-            desk.operation(2, 0, 1, 1, 0);
-            desk.operation(4, 0, store[0], store[1], 0);
-            desk.operation(0, 5, 8, 8, 2);
-            expectHalt(desk, 6);
-            expect(desk, 5, 0, store[0], 0, 10);
-            expect(desk, 5, 1, store[1], 0, 15);
-            // In the very cycle of the reading it may be: sources are read at the beginning.
-            expect(desk, 5, 2, 8, 0, 5);
-            expect(desk, 0, 2, 11, 2, 8);
+        for (int d = 0; d < 8; d++) {
+            int late = (d + 3) % 8;
+            for (int side = 0; side < 2; side++) {
+                MoveDesk desk = new MoveDesk(4, 4, 1);
+                desk.operation(2, late, late, late, 0);
+                desk.operation(4, 0, side == 0 ? late : d, side == 0 ? d : late, 0);
+                desk.operation(0, d, 8, 8, 2);
+                expectHalt(desk, 6);
+                expect(desk, 5, 0, side == 0 ? late : d, 0, 10);
+                expect(desk, 5, 1, side == 0 ? d : late, 0, 15);
+                // In the very cycle of the reading it may be: sources are read at the beginning.
+                expect(desk, 5, 2, 8, 0, d);
+                expect(desk, 0, 2, 11, 2, 8);
+            }
         }
         MoveDesk own = new MoveDesk(4, 1, 1);
         own.operation(0, 5, 5, 5, 0);
@@ -456,6 +483,36 @@ public final class Promise08CompileTest {
         again.operation(4, 0, 8, 8, 2);
         expectHalt(again, 2);
         CodeView.expectCount(again, 2, 5);
+    }
+
+    private static void asIfNoneHadBeenCompiled() {
+        Check.sentence("The operations are COMPILED: the code is theirs alone then");
+        for (int earlier = 0; earlier < 2; earlier++) {
+            MoveDesk desk = new MoveDesk(4, 4, 3);
+            for (int i = 0; i < 20; i++) {
+                // Products that wait for one another are too many; sums and loads are not.
+                desk.operation(earlier == 1 ? 2 : i % 2 * 3, i % 8, (i + 7) % 8, 0, 0);
+            }
+            if (earlier == 0) {
+                desk.compile();
+            } else {
+                Check.fails("compile()", UnsupportedOperationException.class, () -> desk.compile());
+            }
+            desk.forget();
+            desk.operation(0, 5, 0, 1, 0);
+            desk.operation(3, 4, 0, 0, 0);
+            desk.operation(2, 7, 8, 8, 6);
+            expectHalt(desk, 6);
+            expect(desk, 0, 0, 0, 0, 8);
+            expect(desk, 0, 1, 1, 0, 11);
+            expect(desk, 1, 0, 8, 0, 5);
+            expect(desk, 0, 2, 0, 0, 14);
+            expect(desk, 3, 0, 10, 0, 4);
+            expect(desk, 1, 1, 11, 6, 9);
+            expect(desk, 1, 2, 11, 6, 13);
+            expect(desk, 5, 0, 9, 0, 7);
+            CodeView.expectCount(desk, 4, 9);
+        }
     }
 
     private static void onlyTheCodeChanges() {

@@ -7,9 +7,12 @@ public final class Promise09JudgeTest {
         theLeastCycle();
         fromCycleZeroAsBehindReset();
         anyGuardsMayBe();
+        guardsMayAllBeOneOrZero();
         guardsMayChangeInEachCycle();
         resultsOnEveryWay();
         resultsUnderWay();
+        resultsOfAllUnits();
+        jumpsOnEachBus();
         jumpsBehindJumps();
         jumpsOfNoConstant();
         jumpsNotMade();
@@ -130,6 +133,25 @@ public final class Promise09JudgeTest {
         expect("never three at once", desk, -1, 0);
     }
 
+    private static void guardsMayAllBeOneOrZero() {
+        Check.sentence("guards are in each cycle whatever they may be");
+        for (int bit = 0; bit < 2; bit++) {
+            MoveDesk desk = new MoveDesk(4, 4, 3);
+            // Only if all four are so, a way comes behind 10 and on to 5.
+            for (int unit = 0; unit < 3; unit++) {
+                desk.move(0, unit, bit == 1 ? Ports.ifOne(unit) : Ports.ifZero(unit), 11, 0, Ports.BEGIN[unit]);
+                Ports.port(desk, 10, unit, Ports.RESULT + unit, Ports.OPERAND + unit);
+            }
+            desk.move(0, 3, bit == 1 ? Ports.ifZero(3) : Ports.ifOne(3), 11, 0, Ports.HALT);
+            Ports.constant(desk, 1, 0, 10, Ports.JUMP);
+            Ports.constant(desk, 10, 3, 5, Ports.JUMP);
+            expect("10 lacks results perhaps", desk, 10, 2);
+            Ports.constant(desk, 5, 0, 0, 1);
+            Ports.constant(desk, 5, 1, 0, 2);
+            expect("5 comes perhaps", desk, 5, 4);
+        }
+    }
+
     private static void guardsMayChangeInEachCycle() {
         Check.sentence("guards are in each cycle whatever they may be");
         MoveDesk desk = new MoveDesk(2, 1, 1);
@@ -173,6 +195,67 @@ public final class Promise09JudgeTest {
         Ports.constant(desk, 0, 0, 1, Ports.STORE);
         Ports.port(desk, 9, 0, Ports.RESULT + 2, 0);
         expect("a store has no result", desk, 9, 2);
+    }
+
+    private static void resultsOfAllUnits() {
+        Check.sentence("2: one would read the RESULT of a unit that has had none");
+        for (int multiply = 1; multiply <= 4; multiply++) {
+            for (int load = 1; load <= 3; load++) {
+                MoveDesk desk = new MoveDesk(4, multiply, load);
+                for (int unit = 0; unit < 3; unit++) {
+                    Ports.constant(desk, 2, unit, 0, Ports.BEGIN[unit]);
+                }
+                for (int cycle = 3; cycle <= 6; cycle++) {
+                    for (int unit = 0; unit < 3; unit++) {
+                        Ports.port(desk, cycle, unit, Ports.RESULT + unit, Ports.OPERAND + unit);
+                    }
+                    boolean wrong = cycle < 2 + Math.max(multiply, load);
+                    expect("latencies " + multiply + ", " + load + " at " + cycle, desk, wrong ? cycle : -1,
+                            wrong ? 2 : 0);
+                    for (int unit = 0; unit < 3; unit++) {
+                        desk.free(cycle, unit);
+                    }
+                }
+            }
+        }
+    }
+
+    private static void jumpsOnEachBus() {
+        Check.sentence("JUMP: the two cycles behind this one are made, then PC is x modulo 64");
+        for (int buses = 2; buses <= 4; buses++) {
+            for (int bus = 0; bus < buses; bus++) {
+                MoveDesk desk = new MoveDesk(buses, 1, 1);
+                Ports.constant(desk, 5, bus, 20 + bus, Ports.JUMP);
+                for (int other = 0; other < buses; other++) {
+                    if (other != bus) {
+                        desk.move(5, other, 0, 11, 40 + other, 8 + other);
+                    }
+                }
+                Ports.constant(desk, 20 + bus, 0, 0, Ports.HALT);
+                Ports.port(desk, 8, 0, Ports.RESULT, 1);
+                expect("JUMP on bus " + bus, desk, -1, 0);
+                int[] ways = {6, 7, 20 + bus};
+                for (int cycle : ways) {
+                    Ports.port(desk, cycle, 1, Ports.RESULT + 1, 1);
+                    expect("JUMP on bus " + bus + ", a read at " + cycle, desk, cycle, 2);
+                    desk.free(cycle, 1);
+                }
+                desk.move(7, 1, Ports.ifOne(0), 11, 0, Ports.JUMP);
+                expect("JUMP on bus " + bus + ", and at 7", desk, 7, 3);
+            }
+        }
+        MoveDesk choice = new MoveDesk(4, 1, 1);
+        for (int bus = 0; bus < 4; bus++) {
+            choice.move(0, bus, bus % 2 == 0 ? Ports.ifOne(0) : Ports.ifZero(0), 11, 50 - 10 * bus,
+                    bus < 2 ? Ports.JUMP : Ports.ADD);
+        }
+        Ports.constant(choice, 50, 0, 0, Ports.HALT);
+        expect("one of two JUMPS", choice, -1, 0);
+        Ports.port(choice, 40, 0, Ports.RESULT + 1, 1);
+        expect("the one goes wrong", choice, 40, 2);
+        choice.free(40, 0);
+        Ports.port(choice, 50, 1, Ports.RESULT + 1, 1);
+        expect("the other one goes wrong", choice, 50, 2);
     }
 
     private static void jumpsBehindJumps() {
@@ -247,6 +330,19 @@ public final class Promise09JudgeTest {
 
     private static void waysEndAtFaults() {
         Check.sentence("on which .. no cycle had a FAULT");
+        // Behind 21 the code leads to 9.
+        for (int fault = 1; fault <= 4; fault++) {
+            MoveDesk desk = new MoveDesk(2, 4, 3);
+            Ports.constant(desk, 0, 0, 20, Ports.JUMP);
+            Ports.constant(desk, 26, 0, 9, Ports.JUMP);
+            desk.move(9, 0, Ports.ifOne(0), Ports.CONSTANT, 0, 1);
+            desk.move(9, 1, Ports.ifOne(0), Ports.CONSTANT, 0, 2);
+            expect("no FAULT at 21", desk, 9, 4);
+            moveWithFault(desk, fault, Ports.ALWAYS);
+            expect("FAULT " + fault + " at 21", desk, 21, fault);
+            moveWithFault(desk, fault, Ports.ifOne(0));
+            expect("FAULT " + fault + " at 21 perhaps", desk, 9, 4);
+        }
         MoveDesk desk = new MoveDesk(2, 1, 1);
         Ports.constant(desk, 20, 0, 9, Ports.JUMP);
         Ports.port(desk, 21, 0, Ports.RESULT, 1);
@@ -258,6 +354,22 @@ public final class Promise09JudgeTest {
         desk.move(21, 0, Ports.ALWAYS, Ports.RESULT, 0, 1);
         Ports.constant(desk, 1, 0, 20, Ports.ADD);
         expect("no FAULT at 21 any more", desk, 9, 2);
+    }
+
+    /** Cycle 21 has that FAULT if the guard is so. */
+    private static void moveWithFault(MoveDesk desk, int fault, int guard) {
+        if (fault == 1) {
+            Ports.constant(desk, 21, 0, 0, 5);
+            desk.move(21, 1, guard, Ports.CONSTANT, 0, 5);
+        } else if (fault == 2) {
+            desk.move(21, 1, guard, Ports.RESULT, 0, 5);
+        } else if (fault == 3) {
+            Ports.constant(desk, 20, 0, 26, Ports.JUMP);
+            desk.move(21, 1, guard, Ports.CONSTANT, 26, Ports.JUMP);
+        } else {
+            Ports.constant(desk, 21, 0, 0, 5);
+            desk.move(21, 1, guard, Ports.CONSTANT, 0, 6);
+        }
     }
 
     private static void whereNoWayLeads() {
@@ -292,6 +404,14 @@ public final class Promise09JudgeTest {
             desk.move(cycle, 1, Ports.ifOne(3), Ports.CONSTANT, 10, Ports.JUMP);
             expect("JUMP at 62 and at " + cycle, desk, cycle < 1 ? cycle : -1, cycle < 1 ? 3 : 0);
             desk.free(cycle, 1);
+        }
+        for (int cycle = 61; cycle <= 63; cycle++) {
+            MoveDesk low = new MoveDesk(2, 1, 1);
+            Ports.constant(low, 2, 0, 60, Ports.JUMP);
+            Ports.constant(low, cycle, 1, 40, Ports.JUMP);
+            expect("JUMP at " + cycle, low, -1, 0);
+            low.move(40, 1, Ports.ifOne(2), Ports.RESULT, 0, 1);
+            expect("JUMP at " + cycle + " to a read", low, 40, 2);
         }
     }
 

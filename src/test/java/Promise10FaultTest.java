@@ -380,6 +380,17 @@ public final class Promise10FaultTest {
         expectAtEight(desk, 2);
         desk.move(8, 2, Ports.ifOne(2), Ports.CONSTANT, 0, 1);
         expectAtEight(desk, 1);
+        // The less one on lower buses, then on higher ones.
+        for (int first = 0; first <= 2; first += 2) {
+            MoveDesk other = new MoveDesk(4, 1, 1);
+            other.move(8, first, Ports.ifOne(0), Ports.CONSTANT, 0, 5);
+            other.move(8, first + 1, Ports.ifOne(0), Ports.CONSTANT, 0, 5);
+            other.move(8, 2 - first, Ports.ifZero(0), Ports.CONSTANT, 0, 6);
+            other.move(8, 3 - first, Ports.ifZero(0), Ports.CONSTANT, 0, 7);
+            expectAtEight(other, 1);
+            other.free(8, first);
+            expectAtEight(other, 4);
+        }
     }
 
     private static void expectAtEight(MoveDesk desk, int due) {
@@ -390,7 +401,7 @@ public final class Promise10FaultTest {
     private static void theLeastOfAllWays() {
         Check.sentence("The least FAULT that the cycle which the latest judge() told may have");
         MoveDesk desk = new MoveDesk(2, 1, 1);
-        // 30 has 4 at first, by one way, and 2 by another one, that comes there later and has no sum.
+        // 30 has 4 by the way that has a sum, 2 by the one that has none.
         desk.move(0, 0, Ports.ifOne(0), Ports.CONSTANT, 40, Ports.JUMP);
         desk.move(0, 1, Ports.ifZero(0), Ports.CONSTANT, 0, Ports.ADD);
         Ports.constant(desk, 40, 0, 30, Ports.JUMP);
@@ -405,5 +416,13 @@ public final class Promise10FaultTest {
         Ports.constant(desk, 41, 1, 0, Ports.SUBTRACT);
         Check.same("judge()", desk.judge(), 30);
         Check.same("fault(0)", desk.fault(0), 4);
+        desk.clear();
+        desk.move(0, 0, Ports.ifOne(0), Ports.CONSTANT, 40, Ports.JUMP);
+        Ports.constant(desk, 40, 0, 30, Ports.JUMP);
+        Ports.constant(desk, 41, 0, 0, Ports.ADD);
+        Ports.port(desk, 30, 0, Ports.RESULT, 1);
+        Ports.constant(desk, 30, 1, 0, 2);
+        Check.same("judge() with the sum on the other way", desk.judge(), 30);
+        Check.same("fault(0)", desk.fault(0), 2);
     }
 }
